@@ -71,8 +71,7 @@ public final class MirrorShares {
         if (was == kind) {
             return NO;
         }
-        trial.become(room);
-        trial.tell(cell, kind);
+        tryCell(cell, kind);
         if (trial.isOverfull()) {
             return FULL;
         }
@@ -232,7 +231,12 @@ public final class MirrorShares {
         int many = 0;
         int first = NONE;
         for (int i = 0; i < 2 * room.cells(); i++) {
-            if (room.kindAt(i / 2) == FREE && makesShare(i / 2, MIRROR_SLASH + i % 2, p, q, a, b)) {
+            if (room.kindAt(i / 2) != FREE) {
+                continue;
+            }
+            tryCell(i / 2, MIRROR_SLASH + i % 2);
+            beam.shine(trial, p);
+            if (compareFractions(beam.outAt(q), beam.whole, a, b) == 0) {
                 many++;
                 first = first == NONE ? i : first;
             }
@@ -271,11 +275,9 @@ public final class MirrorShares {
         }
     }
 
-    private boolean makesShare(int cell, int kind, int p, int q, int a, int b) {
+    private void tryCell(int cell, int kind) {
         trial.become(room);
         trial.tell(cell, kind);
-        beam.shine(trial, p);
-        return compareFractions(beam.outAt(q), beam.whole, a, b) == 0;
     }
 
     // ---- fractions
@@ -304,7 +306,7 @@ public final class MirrorShares {
         return large;
     }
 
-    /** The language leaves no Float.floatToIntBits; a share is 0 or from 2^-10 to 1, so no sign, no small floats. */
+    /** LANGUAGE.md leaves no Float.floatToIntBits. A share is 0 or from 2^-10 to 1: no sign, nothing below the normal floats. */
     private static int floatBits(int above, int below) {
         if (above <= 0 || below <= 0) {
             return 0;
@@ -512,8 +514,9 @@ public final class MirrorShares {
             return NONE;
         }
 
+        /** 0, which is no letter, where there is none. */
         private int letterAt(int place) {
-            return place >= 0 && place < length && place < MOST_LETTERS ? letters[place] : NONE;
+            return place >= 0 && place < length && place < MOST_LETTERS ? letters[place] : 0;
         }
 
         /** The place of the ; behind an item, or the text's length if there is none. */
@@ -770,7 +773,7 @@ public final class MirrorShares {
         }
 
         /**
-         * Elimination without fractions: each division leaves no rest, numbers stay below 2^15.
+         * Elimination without fractions: each division leaves no rest, numbers go to 2^15 at most.
          * A split takes in no more rays than it sends out, so splits that only feed each other
          * cannot be come into from outside: each split found leads on to an end, and no pivot is 0.
          */
