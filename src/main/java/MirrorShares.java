@@ -306,7 +306,10 @@ public final class MirrorShares {
         return large;
     }
 
-    /** LANGUAGE.md leaves no Float.floatToIntBits. A share is 0 or from 2^-10 to 1: no sign, nothing below the normal floats. */
+    /**
+     * By hand, since the language leaves no Float.floatToIntBits. A share is 0 or from 2^-10 to 1,
+     * so there is no sign, and nothing below the normal floats.
+     */
     private static int floatBits(int above, int below) {
         if (above <= 0 || below <= 0) {
             return 0;
