@@ -1,0 +1,133 @@
+import java.util.function.Supplier;
+import java.util.function.ToIntFunction;
+
+/**
+ * What the tests of the document's boundary sentences share: each sentence is a test of its own, named by
+ * the promise (or the heading) and the sentence, and it fails if an answer in it is not the one that is due.
+ */
+abstract class Sentences {
+    static final int BAD = -1, NO = -2, FULL = -3, NONE = -4;
+    static final int LOW = Integer.MIN_VALUE, HIGH = Integer.MAX_VALUE;
+    static final int FREE = 0, SLASH = 1, BACKSLASH = 2, HALF_SLASH = 3, HALF_BACKSLASH = 4, WALL = 5, OPEN = 6, SHUT = 7;
+    static final String LETTERS = "./\\fb#ox";
+
+    private static int sentences = 0;
+    private static int broken = 0;
+    private static int answers = 0;
+    private static int wrongHere = 0;
+
+    /** One sentence: its test must ask for something, and all it asks for must be as due. */
+    static void holds(String sentence, Runnable test) {
+        int before = answers;
+        wrongHere = 0;
+        sentences++;
+        try {
+            test.run();
+        } catch (RuntimeException thrown) {
+            wrongHere++;
+            System.out.println("  thrown: " + thrown);
+        }
+        if (wrongHere > 0 || answers == before) {
+            broken++;
+            System.out.println("does not hold: " + sentence);
+        }
+    }
+
+    static void due(String call, int got, int want) {
+        answers++;
+        if (got != want) {
+            wrongHere++;
+            System.out.println("  " + call + " answered " + got + ", due is " + want);
+        }
+    }
+
+    static void due(String what, String got, String want) {
+        answers++;
+        if (!got.equals(want)) {
+            wrongHere++;
+            System.out.println("  " + what + ": " + got + ", due is " + want);
+        }
+    }
+
+    static void end() {
+        System.out.println(sentences + " sentences, " + answers + " answers, " + broken + " sentences do not hold");
+        if (broken > 0) {
+            System.exit(1);
+        }
+    }
+
+    static MirrorShares told(MirrorShares x, String text) {
+        for (char letter : text.toCharArray()) {
+            x.write(letter);
+        }
+        return x;
+    }
+
+    static MirrorShares written(String text) {
+        return told(new MirrorShares(), text);
+    }
+
+    static MirrorShares laid(String text) {
+        MirrorShares x = written(text);
+        due("lay of " + text, x.lay(), (int) text.chars().filter(letter -> LETTERS.indexOf(letter) >= 0).count());
+        return x;
+    }
+
+    /** A text of rows of FREE cells. */
+    static String freeRoom(int columns, int rows) {
+        return ("r" + ".".repeat(columns) + ";").repeat(rows);
+    }
+
+    /** The kinds of all cells, and that there is no cell more. */
+    static void cells(MirrorShares x, String letters) {
+        due("the cells", cellsOf(x), letters);
+        due("cell(" + letters.length() + ")", x.cell(letters.length()), BAD);
+    }
+
+    static String cellsOf(MirrorShares x) {
+        StringBuilder s = new StringBuilder();
+        for (int cell = 0; cell < x.count(0) * x.count(1); cell++) {
+            int kind = x.cell(cell);
+            s.append(kind >= 0 && kind < LETTERS.length() ? LETTERS.charAt(kind) : '?');
+        }
+        return s.toString();
+    }
+
+    static void share(MirrorShares x, int p, int q, int above, int below) {
+        due("share(" + p + ", " + q + ", 0)", x.share(p, q, 0), above);
+        due("share(" + p + ", " + q + ", 1)", x.share(p, q, 1), below);
+    }
+
+    /** One call for many numbers, all with the same answer due. */
+    static void each(String call, ToIntFunction<Integer> answer, int want, int... numbers) {
+        for (int number : numbers) {
+            due(call + " of " + number, answer.applyAsInt(number), want);
+        }
+    }
+
+    /** All that can be asked of the object without a change. */
+    private static String seen(MirrorShares x) {
+        StringBuilder s = new StringBuilder(cellsOf(x));
+        for (int what = 0; what < 10; what++) {
+            s.append(' ').append(x.count(what));
+        }
+        return s.append(" fault ").append(x.fault()).append('\n').toString();
+    }
+
+    /** All that the object still knows: what it is, what each undo brings back, what its text lays. */
+    static String known(MirrorShares x) {
+        StringBuilder s = new StringBuilder(seen(x));
+        for (int i = 0; i < 5; i++) {
+            s.append("undo ").append(x.undo()).append(' ').append(seen(x));
+        }
+        s.append("lay ").append(x.lay()).append(' ').append(seen(x));
+        return s.append("wipe ").append(x.wipe()).toString();
+    }
+
+    /** The call answers as due, and behind it all is as if it had not been. */
+    static void unchanged(String call, Supplier<MirrorShares> made, ToIntFunction<MirrorShares> asked, int want) {
+        MirrorShares x = made.get();
+        due(call, asked.applyAsInt(x), want);
+        due("all that is known behind " + call, known(x), known(made.get()));
+    }
+}
