@@ -105,7 +105,24 @@ abstract class Sentences {
         }
     }
 
-    /** All that can be asked of the object without a change. */
+    interface PortCall {
+        int ask(MirrorShares x, int p, int q);
+    }
+
+    /** In rooms of 6, 14, 18 ports: numbers too small or too large as the one port, the other, both. */
+    static void badPorts(String call, PortCall asked) {
+        MirrorShares[] rooms = {laid("r..;"), new MirrorShares(), laid(freeRoom(5, 4))};
+        int[] ports = {6, 14, 18};
+        for (int i = 0; i < rooms.length; i++) {
+            for (int bad : new int[] {-1, -ports[i], ports[i], ports[i] + 1, 256, 1 << 30, LOW, HIGH}) {
+                due(call + " from " + bad, asked.ask(rooms[i], bad, 0), BAD);
+                due(call + " to " + bad, asked.ask(rooms[i], 0, bad), BAD);
+                due(call + " from and to " + bad, asked.ask(rooms[i], bad, bad), BAD);
+            }
+        }
+    }
+
+    /** All that can be asked of the object without a change. */    /** All that can be asked of the object without a change. */
     private static String seen(MirrorShares x) {
         StringBuilder s = new StringBuilder(cellsOf(x));
         for (int what = 0; what < 10; what++) {
