@@ -476,9 +476,6 @@ public final class MirrorShares {
             }
             columns = width;
             rows++;
-            for (int x = 0; x < width; x++) {
-                tell((rows - 1) * columns + x, FREE);
-            }
             return true;
         }
     }
@@ -759,7 +756,7 @@ public final class MirrorShares {
             return ENDLESS;
         }
 
-        /** Twice what a split sends each way is what comes to it: from the port (to split 0 alone), from splits. */
+        /** Twice what a split sends each way is what comes to it, from the port (to split 0 alone) and from splits. */
         private void setRows() {
             for (int i = 0; i < splits; i++) {
                 Arrays.fill(rows[i], 0);

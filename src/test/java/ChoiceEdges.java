@@ -249,6 +249,34 @@ public final class ChoiceEdges extends Sentences {
         due("count(6)", x.count(6), 0);
     }
 
+    /** What is only tried (a text, a mirror more, other doors, a kind too many) is not seen by what is asked next. */
+    private static void triesLeaveNoTrace() {
+        MirrorShares x = told(laid(TWO_WAYS), "r###;");
+        due("fault() of another text", x.fault(), NONE);
+        best(x, 11, 2, 3, 1, 2);
+        due("lay() of a fault", told(x, "q").lay(), NO);
+        best(x, 11, 2, 3, 1, 2);
+        found(x, new int[] {1, 7, 0, 1}, 6, 6);
+        best(x, 11, 2, 3, 1, 2);
+        found(x, new int[] {1, 7, 0, 1}, 6, 6);
+        share(x, 11, 2, 0, 1);
+        due("put(3, 0)", x.put(3, FREE), NO);
+        due("put(8, 0)", x.put(8, FREE), SLASH);
+        best(x, 11, 2, 1, 1, 4);
+        due("undo()", x.undo(), 0);
+        best(x, 11, 2, 3, 1, 2);
+    }
+
+    private static void refusedKindsLeaveNoTrace() {
+        MirrorShares x = laid("rfbfbf;rxxxx.;");
+        due("put(9, 3)", x.put(9, HALF_SLASH), FULL);
+        best(x, 13, 6, 15, 1, 1);
+        due("put(9, 7)", x.put(9, SHUT), FULL);
+        best(x, 13, 6, 15, 1, 1);
+        found(x, new int[] {6, 11, 1, 1}, 1, 18);
+        best(x, 13, 6, 15, 1, 1);
+    }
+
     public static void main(String[] args) {
         holds("19 BAD: a PORT too small, too large", ChoiceEdges::bestPorts);
         holds("19 (what = 0) to (2): else BAD", ChoiceEdges::bestWhat);
@@ -283,6 +311,9 @@ public final class ChoiceEdges extends Sentences {
         holds("20 a SHARE of a large number below", ChoiceEdges::foundOfLargeBelow);
         holds("20 BAD goes ahead of NONE", ChoiceEdges::foundBadAheadOfNone);
         holds("20 nothing changes, BAD, NONE or not", ChoiceEdges::foundChangesNothing);
+
+        holds("19, 20 what is only tried leaves no trace", ChoiceEdges::triesLeaveNoTrace);
+        holds("19, 20 what is refused leaves no trace", ChoiceEdges::refusedKindsLeaveNoTrace);
         end();
     }
 }

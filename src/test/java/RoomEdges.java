@@ -1,13 +1,9 @@
-/** The boundary sentences of promises 10 to 12 (cell, doorAt, port) and 21 (count), and of the terms of CELLS, PORTS, DOORS. */
+/** The boundary sentences of promises 10 to 12 (cell, doorAt, port) and 21 (count), and of CELLS, PORTS, DOORS. */
 public final class RoomEdges extends Sentences {
     private static final int UP = 0, RIGHT = 1, DOWN = 2, LEFT = 3;
 
     private static MirrorShares changed() {
-        MirrorShares x = new MirrorShares();
-        x.put(0, WALL);
-        x.turn();
-        x.door(0, 1);
-        return told(x, "r##;");
+        return changed("r##;");
     }
 
     // ---- 10 cell
@@ -103,7 +99,8 @@ public final class RoomEdges extends Sentences {
     private static void portsOfTheLargest() {
         ports(laid(freeRoom(5, 4)),
             new int[] {0, 1, 2, 3, 4, 4, 9, 14, 19, 15, 16, 17, 18, 19, 0, 5, 10, 15},
-            new int[] {DOWN, DOWN, DOWN, DOWN, DOWN, LEFT, LEFT, LEFT, LEFT, UP, UP, UP, UP, UP, RIGHT, RIGHT, RIGHT, RIGHT});
+            new int[] {DOWN, DOWN, DOWN, DOWN, DOWN, LEFT, LEFT, LEFT, LEFT,
+                UP, UP, UP, UP, UP, RIGHT, RIGHT, RIGHT, RIGHT});
     }
 
     private static void portsOfTheTurned() {

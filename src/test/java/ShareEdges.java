@@ -1,7 +1,7 @@
 /** The boundary sentences of promises 13 to 18: share, lost, bits, lit, far, alike. */
 public final class ShareEdges extends Sentences {
     private static final int UP = 0, RIGHT = 1, DOWN = 2, LEFT = 3;
-    /** In a room of 3 by 3: the port at which a beam in the middle goes out, and from which it comes, by its direction. */
+    /** In a room of 3 by 3, by a beam's direction: the port where it goes out of the middle, and where it came in. */
     private static final int[] MIDDLE_OUT = {1, 4, 7, 10};
     private static final int[] MIDDLE_IN = {7, 10, 1, 4};
     private static final int[] BY_SLASH = {RIGHT, UP, LEFT, DOWN};
@@ -10,7 +10,7 @@ public final class ShareEdges extends Sentences {
     private static final String WALLS = "r#####;r#####;r#####;r#####;";
     /** A beam into port 14 goes through all 20 cells, row by row, out at port 17. */
     private static final String SNAKE = "r....\\;r/.../;r\\...\\;r..../;";
-    /** A ring of mirrors and one HALF one at port 7: it goes round both ways, a quarter each comes back, a quarter each down. */
+    /** A ring with a HALF one at port 7: a beam goes round both ways, of each a quarter comes back, a quarter down. */
     private static final String BOTH_WAYS = "r/\\;rf/;";
     /** Shares of the largest number below that was found. */
     private static final String LARGE_BELOW = "rffb.;rbf//;";
@@ -20,11 +20,7 @@ public final class ShareEdges extends Sentences {
         "r.f/.;rb.xf;r\\f.\\;", "r\\/b.\\;rf/f\\#;rbb/#/;r#\\\\/\\;", "rf\\;r\\f;", "r..##.;rfff#.;"};
 
     private static MirrorShares changed() {
-        MirrorShares x = new MirrorShares();
-        x.put(0, WALL);
-        x.turn();
-        x.door(0, 1);
-        return told(x, "r##;");
+        return changed("r##;");
     }
 
     // ---- 2 what KINDS do
@@ -381,12 +377,16 @@ public final class ShareEdges extends Sentences {
         }
     }
 
+    /** From several ports in turn, so that no answer is left over from another. */
     private static void farOnlyWithAShare() {
         for (String text : ROOMS) {
             MirrorShares x = laid(text);
             int ports = x.count(7);
-            for (int q = 0; q < ports; q++) {
-                due("there is far(1, " + q + ") of " + text, x.far(1, q) == NONE ? 0 : 1, x.share(1, q, 0) == 0 ? 0 : 1);
+            for (int p : new int[] {0, 1, ports / 2, ports - 1, 0}) {
+                for (int q = 0; q < ports; q++) {
+                    boolean some = x.share(p, q, 0) > 0;
+                    due("there is far(" + p + ", " + q + ") of " + text, x.far(p, q) == NONE ? 0 : 1, some ? 1 : 0);
+                }
             }
         }
     }

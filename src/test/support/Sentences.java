@@ -8,7 +8,8 @@ import java.util.function.ToIntFunction;
 abstract class Sentences {
     static final int BAD = -1, NO = -2, FULL = -3, NONE = -4;
     static final int LOW = Integer.MIN_VALUE, HIGH = Integer.MAX_VALUE;
-    static final int FREE = 0, SLASH = 1, BACKSLASH = 2, HALF_SLASH = 3, HALF_BACKSLASH = 4, WALL = 5, OPEN = 6, SHUT = 7;
+    static final int FREE = 0, SLASH = 1, BACKSLASH = 2, HALF_SLASH = 3, HALF_BACKSLASH = 4;
+    static final int WALL = 5, OPEN = 6, SHUT = 7;
     static final String LETTERS = "./\\fb#ox";
 
     private static int sentences = 0;
@@ -73,6 +74,15 @@ abstract class Sentences {
         return x;
     }
 
+    /** The first room with a change of each sort, and letters in THE TEXT. */
+    static MirrorShares changed(String text) {
+        MirrorShares x = new MirrorShares();
+        x.put(0, WALL);
+        x.turn();
+        x.door(0, 1);
+        return told(x, text);
+    }
+
     /** A text of rows of FREE cells. */
     static String freeRoom(int columns, int rows) {
         return ("r" + ".".repeat(columns) + ";").repeat(rows);
@@ -122,7 +132,7 @@ abstract class Sentences {
         }
     }
 
-    /** All that can be asked of the object without a change. */    /** All that can be asked of the object without a change. */
+    /** All that can be asked of the object without a change. */
     private static String seen(MirrorShares x) {
         StringBuilder s = new StringBuilder(cellsOf(x));
         for (int what = 0; what < 10; what++) {
