@@ -96,7 +96,8 @@ abstract class Sentences {
 
     static String cellsOf(MirrorShares x) {
         StringBuilder s = new StringBuilder();
-        for (int cell = 0; cell < x.count(0) * x.count(1); cell++) {
+        int many = x.count(0) * x.count(1);
+        for (int cell = 0; cell < many; cell++) {
             int kind = x.cell(cell);
             s.append(kind >= 0 && kind < LETTERS.length() ? LETTERS.charAt(kind) : '?');
         }
