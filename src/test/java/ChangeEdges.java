@@ -55,12 +55,6 @@ public final class ChangeEdges extends Sentences {
         cells(x, ".".repeat(20));
     }
 
-    private static void putKindTooSmallOrLarge() {
-        MirrorShares x = laid("r..;");
-        each("put of a kind", kind -> x.put(0, kind), BAD, -1, 8, 9, 256, 256 + WALL, 65536 + WALL, LOW, HIGH);
-        cells(x, "..");
-    }
-
     private static void putFromEachKindToEach() {
         for (int from = 0; from <= 7; from++) {
             for (int to = 0; to <= 7; to++) {
@@ -161,15 +155,6 @@ public final class ChangeEdges extends Sentences {
         due("put(6, 7)", x.put(6, SHUT), NO);
     }
 
-    private static void putRefusedChangesNothing() {
-        unchanged("put(-1, 0)", ChangeEdges::changed, x -> x.put(-1, FREE), BAD);
-        unchanged("put(12, 0)", ChangeEdges::changed, x -> x.put(12, FREE), BAD);
-        unchanged("put(0, 8)", ChangeEdges::changed, x -> x.put(0, 8), BAD);
-        unchanged("put(1, 1)", ChangeEdges::changed, x -> x.put(1, SLASH), NO);
-        unchanged("put(13, 3)", ChangeEdges::full, x -> x.put(13, HALF_SLASH), FULL);
-        unchanged("put(13, 7)", ChangeEdges::full, x -> x.put(13, SHUT), FULL);
-    }
-
     // ---- 7 door
 
     private static void doorFirstAndLast() {
@@ -211,13 +196,6 @@ public final class ChangeEdges extends Sentences {
         cells(x, ".#");
     }
 
-    private static void doorIsTooSmallOrLarge() {
-        MirrorShares x = laid("rxo;");
-        each("door(0, is)", is -> x.door(0, is), BAD, -1, 2, 6, 7, 256, 257, LOW, LOW + 1, HIGH);
-        each("door(1, is)", is -> x.door(1, is), BAD, -1, 2, 6, 7, 256, 257, LOW, LOW + 1, HIGH);
-        cells(x, "xo");
-    }
-
     private static void doorIsOpen() {
         MirrorShares x = laid("rxo;");
         due("door(1, 1)", x.door(1, 1), NO);
@@ -238,13 +216,6 @@ public final class ChangeEdges extends Sentences {
         due("door(2, 0)", x.door(2, 0), BAD);
         due("door(2, 1)", x.door(2, 1), BAD);
         due("door(-1, 0)", x.door(-1, 0), BAD);
-    }
-
-    private static void doorRefusedChangesNothing() {
-        unchanged("door(1, 1)", ChangeEdges::changed, x -> x.door(1, 1), BAD);
-        unchanged("door(0, 2)", ChangeEdges::changed, x -> x.door(0, 2), BAD);
-        unchanged("door(0, 1)", ChangeEdges::changed, x -> x.door(0, 1), NO);
-        unchanged("door(0, 0)", ChangeEdges::full, x -> x.door(0, 0), NO);
     }
 
     private static void doorsSuchAsThereAre() {
@@ -325,11 +296,6 @@ public final class ChangeEdges extends Sentences {
         due("count(2)", x.count(2), 5);
         due("count(3)", x.count(3), 4);
         cells(x, "\\xbb\\#of\\#xb\\#of");
-    }
-
-    private static void turnRefusedChangesNothing() {
-        unchanged("turn() of one row", () -> laid("r/x;"), MirrorShares::turn, NO);
-        unchanged("turn() of five columns", ChangeEdges::full, MirrorShares::turn, NO);
     }
 
     private static void turnSuchAsThereAre() {
@@ -501,10 +467,6 @@ public final class ChangeEdges extends Sentences {
         cells(x, "x...");
     }
 
-    private static void undoRefusedChangesNothing() {
-        unchanged("undo()", () -> told(laid("rx/;"), "r##;"), MirrorShares::undo, NO);
-    }
-
     // ---- an object's 512 calls
 
     private static void lastOf512Changes() {
@@ -539,7 +501,7 @@ public final class ChangeEdges extends Sentences {
         holds("6 BAD: a CELL too small", ChangeEdges::putCellTooSmall);
         holds("6 BAD: a CELL too large", ChangeEdges::putCellTooLarge);
         holds("6 BAD: a CELL only by wrap-around", ChangeEdges::putCellByWrapAround);
-        holds("6 a KIND (0 to 7): BAD", ChangeEdges::putKindTooSmallOrLarge);
+        limits("6 a KIND (0 to 7)", "r..;", 0, 7, (x, kind) -> x.put(0, kind));
         holds("6 which it was of; NO: it is so", ChangeEdges::putFromEachKindToEach);
         holds("6 5 HALF ones at most: the fifth", ChangeEdges::putFifthHalf);
         holds("6 FULL: HALF ones would be too many", ChangeEdges::putSixthHalf);
@@ -552,18 +514,29 @@ public final class ChangeEdges extends Sentences {
         holds("6 one less, and one more can be again", ChangeEdges::putAgainBehindOneLess);
         holds("6 BAD goes ahead of NO and FULL", ChangeEdges::putBadAheadOfNoAndFull);
         holds("6 NO goes ahead of FULL", ChangeEdges::putNoAheadOfFull);
-        holds("6 BAD, NO, FULL: nothing changes then", ChangeEdges::putRefusedChangesNothing);
+        unchanged("6 BAD: a CELL too small", ChangeEdges::changed, x -> x.put(-1, FREE), BAD);
+        unchanged("6 BAD: a CELL too large", ChangeEdges::changed, x -> x.put(12, FREE), BAD);
+        unchanged("6 BAD: a KIND too small", ChangeEdges::changed, x -> x.put(0, -1), BAD);
+        unchanged("6 BAD: a KIND too large", ChangeEdges::changed, x -> x.put(0, 8), BAD);
+        unchanged("6 NO: it is so", ChangeEdges::changed, x -> x.put(1, SLASH), NO);
+        unchanged("6 FULL: a HALF one too many", ChangeEdges::full, x -> x.put(13, HALF_SLASH), FULL);
+        unchanged("6 FULL: a door too many", ChangeEdges::full, x -> x.put(13, SHUT), FULL);
 
         holds("7 DOOR: the first and the last there is", ChangeEdges::doorFirstAndLast);
         holds("7 how many are OPEN: from 0 to 4", ChangeEdges::doorNoneOrAllOpen);
         holds("7 BAD: a DOOR too small", ChangeEdges::doorTooSmall);
         holds("7 BAD: a DOOR too large", ChangeEdges::doorTooLarge);
         holds("7 BAD: a DOOR where there is none", ChangeEdges::doorOfNone);
-        holds("7 (is = 1), (0): else BAD", ChangeEdges::doorIsTooSmallOrLarge);
+        limits("7 (is = 1), (0), of an OPEN one", "rox;", 0, 1, (x, is) -> x.door(0, is));
+        limits("7 (is = 1), (0), of a SHUT one", "rox;", 0, 1, (x, is) -> x.door(1, is));
         holds("7 NO: it is OPEN", ChangeEdges::doorIsOpen);
         holds("7 NO: it is SHUT", ChangeEdges::doorIsShut);
         holds("7 BAD goes ahead of NO", ChangeEdges::doorBadAheadOfNo);
-        holds("7 BAD, NO: nothing changes then", ChangeEdges::doorRefusedChangesNothing);
+        unchanged("7 BAD: a DOOR too small", ChangeEdges::changed, x -> x.door(-1, 0), BAD);
+        unchanged("7 BAD: a DOOR too large", ChangeEdges::changed, x -> x.door(1, 0), BAD);
+        unchanged("7 BAD: neither 1 nor 0", ChangeEdges::changed, x -> x.door(0, 2), BAD);
+        unchanged("7 NO: it is OPEN", ChangeEdges::changed, x -> x.door(0, 1), NO);
+        unchanged("7 NO: it is SHUT", ChangeEdges::full, x -> x.door(0, 0), NO);
         holds("7 DOORS such as there are: a door more, a door less", ChangeEdges::doorsSuchAsThereAre);
 
         holds("8 NO: it would have one column", ChangeEdges::turnOfOneRow);
@@ -574,7 +547,8 @@ public final class ChangeEdges extends Sentences {
         holds("8 other KINDS stay", ChangeEdges::turnOfOtherKinds);
         holds("8 a quarter: four are a whole", ChangeEdges::fourTurns);
         holds("8 with 5 HALF ones and 4 doors", ChangeEdges::turnOfTheFullest);
-        holds("8 NO: nothing changes then", ChangeEdges::turnRefusedChangesNothing);
+        unchanged("8 NO: one row", () -> laid("r/x;"), MirrorShares::turn, NO);
+        unchanged("8 NO: five columns", ChangeEdges::full, MirrorShares::turn, NO);
         holds("8 CELLS, PORTS, DOORS such as there are then", ChangeEdges::turnSuchAsThereAre);
 
         holds("9 NO: there was no change", ChangeEdges::undoOfNothing);
@@ -588,7 +562,7 @@ public final class ChangeEdges extends Sentences {
         holds("9 with 5 HALF ones and 4 doors", ChangeEdges::undoOfTheFullest);
         holds("9 a refused call is no change", ChangeEdges::refusedIsNoChange);
         holds("9 a question is no change", ChangeEdges::asksAreNoChanges);
-        holds("9 NO: nothing changes then", ChangeEdges::undoRefusedChangesNothing);
+        unchanged("9 NO: nothing to be UNDONE", () -> told(laid("rx/;"), "r##;"), MirrorShares::undo, NO);
 
         holds("at most 512 calls: changes", ChangeEdges::lastOf512Changes);
         holds("at most 512 calls: turns", ChangeEdges::lastOf512Turns);

@@ -21,18 +21,6 @@ public final class ChoiceEdges extends Sentences {
 
     // ---- 19 best
 
-    private static void bestPorts() {
-        for (int what = 0; what < 3; what++) {
-            int told = what;
-            badPorts("best", (x, p, q) -> x.best(p, q, told));
-        }
-    }
-
-    private static void bestWhat() {
-        MirrorShares x = laid(TWO_WAYS);
-        each("best(11, 2, what)", what -> x.best(11, 2, what), BAD, -1, 3, 4, 256, LOW, HIGH);
-    }
-
     private static void bestOfNoDoors() {
         MirrorShares x = laid("rf.;");
         best(x, 5, 2, 0, 1, 2);
@@ -99,16 +87,6 @@ public final class ChoiceEdges extends Sentences {
         best(x, 0, 4, 1, 1, 1);
     }
 
-    private static void bestChangesNothing() {
-        unchanged("best(0, 7, 0)", ChoiceEdges::changed, x -> x.best(0, 7, 0), 0);
-        unchanged("best(14, 0, 0)", ChoiceEdges::changed, x -> x.best(14, 0, 0), BAD);
-        unchanged("best(0, 0, 3)", ChoiceEdges::changed, x -> x.best(0, 0, 3), BAD);
-        MirrorShares x = laid(TWO_WAYS);
-        x.best(11, 2, 0);
-        share(x, 11, 2, 0, 1);
-        due("count(4)", x.count(4), 0);
-    }
-
     // ---- 20 found
 
     private static void found(MirrorShares x, int[] told, int many, int first) {
@@ -117,38 +95,11 @@ public final class ChoiceEdges extends Sentences {
         due(call + "1)", x.found(told[0], told[1], told[2], told[3], 1), first);
     }
 
-    private static void foundPorts() {
-        badPorts("found, how many", (x, p, q) -> x.found(p, q, 0, 1, 0));
-        badPorts("found, the first", (x, p, q) -> x.found(p, q, 0, 1, 1));
-    }
-
-    private static void foundWhat() {
-        MirrorShares x = laid("r..;");
-        each("found(5, 0, 1, 1, what)", what -> x.found(5, 0, 1, 1, what), BAD, -1, 2, 3, 256, LOW, HIGH);
-    }
-
-    private static void foundAboveTooSmallOrLarge() {
-        MirrorShares x = laid("r..;");
-        for (int what = 0; what < 2; what++) {
-            int told = what;
-            each("found(5, 0, a, 1, what)", a -> x.found(5, 0, a, 1, told), BAD, -1, -1000, 1001, 65536, LOW, HIGH);
-        }
-    }
-
     private static void foundAboveAtItsEnds() {
         MirrorShares x = laid("r..;");
         found(x, new int[] {5, 0, 0, 1}, 3, 1);
         found(x, new int[] {5, 0, 1000, 1000}, 1, 0);
         found(x, new int[] {5, 0, 1000, 1}, 0, NONE);
-    }
-
-    private static void foundBelowTooSmallOrLarge() {
-        MirrorShares x = laid("r..;");
-        for (int what = 0; what < 2; what++) {
-            int told = what;
-            each("found(5, 0, 0, b, what)", b -> x.found(5, 0, 0, b, told), BAD, 0, -1, -1000, 1001, 65536, LOW, HIGH);
-            each("found(5, 0, 1, b, what)", b -> x.found(5, 0, 1, b, told), BAD, 0, -1, -1000, 1001, 65537, LOW, HIGH);
-        }
     }
 
     private static void foundBelowAtItsEnds() {
@@ -239,16 +190,6 @@ public final class ChoiceEdges extends Sentences {
         due("found(0, 3, 1, 1, 2)", x.found(0, 3, 1, 1, 2), BAD);
     }
 
-    private static void foundChangesNothing() {
-        unchanged("found(0, 0, 0, 1, 0)", ChoiceEdges::changed, x -> x.found(0, 0, 0, 1, 0), 4);
-        unchanged("found(0, 0, 1, 1, 1)", ChoiceEdges::changed, x -> x.found(0, 0, 1, 1, 1), NONE);
-        unchanged("found(0, 0, 1, 0, 1)", ChoiceEdges::changed, x -> x.found(0, 0, 1, 0, 1), BAD);
-        MirrorShares x = laid("r..;");
-        x.found(5, 0, 1, 1, 0);
-        share(x, 5, 2, 1, 1);
-        due("count(6)", x.count(6), 0);
-    }
-
     /** What is only tried (a text, a mirror more, other doors, a kind too many) is not seen by what is asked next. */
     private static void triesLeaveNoTrace() {
         MirrorShares x = told(laid(TWO_WAYS), "r###;");
@@ -278,8 +219,10 @@ public final class ChoiceEdges extends Sentences {
     }
 
     public static void main(String[] args) {
-        holds("19 BAD: a PORT too small, too large", ChoiceEdges::bestPorts);
-        holds("19 (what = 0) to (2): else BAD", ChoiceEdges::bestWhat);
+        portsLimits("19 the set,", (x, p, q) -> x.best(p, q, 0));
+        portsLimits("19 above,", (x, p, q) -> x.best(p, q, 1));
+        portsLimits("19 below,", (x, p, q) -> x.best(p, q, 2));
+        limits("19 what (0 to 2)", TWO_WAYS, 0, 2, (x, what) -> x.best(11, 2, what));
         holds("19 BEST without DOORS: the empty set", ChoiceEdges::bestOfNoDoors);
         holds("19 BEST of one DOOR", ChoiceEdges::bestOfOneDoor);
         holds("19 BEST of all 4 DOORS", ChoiceEdges::bestOfAllFour);
@@ -290,13 +233,20 @@ public final class ChoiceEdges extends Sentences {
         holds("19 however the DOORS are", ChoiceEdges::bestHoweverTheDoorsAre);
         holds("19 SHARE then in lowest terms, of the same PORT too", ChoiceEdges::bestInLowestTerms);
         holds("19 DOORS such as there are, THE ROOM TURNED", ChoiceEdges::bestBehindATurn);
-        holds("19 nothing changes, BAD or not", ChoiceEdges::bestChangesNothing);
+        unchanged("19 BEST is told", ChoiceEdges::changed, x -> x.best(0, 7, 0), 0);
+        unchanged("19 BEST of other DOORS is told", () -> laid(TWO_WAYS), x -> x.best(11, 2, 0), 3);
+        unchanged("19 BAD: a PORT", ChoiceEdges::changed, x -> x.best(14, 0, 0), BAD);
+        unchanged("19 BAD: what", ChoiceEdges::changed, x -> x.best(0, 0, 3), BAD);
 
-        holds("20 BAD: a PORT too small, too large", ChoiceEdges::foundPorts);
-        holds("20 (what = 0), (1): else BAD", ChoiceEdges::foundWhat);
-        holds("20 a 0 to 1000: else BAD", ChoiceEdges::foundAboveTooSmallOrLarge);
+        portsLimits("20 how many,", (x, p, q) -> x.found(p, q, 0, 1, 0));
+        portsLimits("20 the first,", (x, p, q) -> x.found(p, q, 0, 1, 1));
+        limits("20 what (0, 1)", "r..;", 0, 1, (x, what) -> x.found(5, 0, 1, 1, what));
+        limits("20 how many, a (0 to 1000)", "r..;", 0, 1000, (x, a) -> x.found(5, 0, a, 1, 0));
+        limits("20 the first, a (0 to 1000)", "r..;", 0, 1000, (x, a) -> x.found(5, 0, a, 1, 1));
         holds("20 a 0 to 1000: 0 and 1000", ChoiceEdges::foundAboveAtItsEnds);
-        holds("20 b 1 to 1000: else BAD", ChoiceEdges::foundBelowTooSmallOrLarge);
+        limits("20 how many, b (1 to 1000)", "r..;", 1, 1000, (x, b) -> x.found(5, 0, 1, b, 0));
+        limits("20 the first, b (1 to 1000)", "r..;", 1, 1000, (x, b) -> x.found(5, 0, 1, b, 1));
+        limits("20 0 by b (1 to 1000)", "r..;", 1, 1000, (x, b) -> x.found(5, 0, 0, b, 0));
         holds("20 b 1 to 1000: 1 and 1000", ChoiceEdges::foundBelowAtItsEnds);
         holds("20 a by b, in lowest terms or not", ChoiceEdges::foundOfAnyTerms);
         holds("20 0 by any b", ChoiceEdges::foundZeroByAny);
@@ -310,7 +260,13 @@ public final class ChoiceEdges extends Sentences {
         holds("20 in a room of 5 HALF ones and 4 doors", ChoiceEdges::mirrorsAreNeverTooMany);
         holds("20 a SHARE of a large number below", ChoiceEdges::foundOfLargeBelow);
         holds("20 BAD goes ahead of NONE", ChoiceEdges::foundBadAheadOfNone);
-        holds("20 nothing changes, BAD, NONE or not", ChoiceEdges::foundChangesNothing);
+        unchanged("20 how many is told", ChoiceEdges::changed, x -> x.found(0, 0, 0, 1, 0), 4);
+        unchanged("20 the first is told", () -> laid("r..;"), x -> x.found(5, 0, 1, 1, 1), 0);
+        unchanged("20 NONE", ChoiceEdges::changed, x -> x.found(0, 0, 1, 1, 1), NONE);
+        unchanged("20 BAD: a PORT", ChoiceEdges::changed, x -> x.found(14, 0, 1, 1, 1), BAD);
+        unchanged("20 BAD: a", ChoiceEdges::changed, x -> x.found(0, 0, 1001, 1, 1), BAD);
+        unchanged("20 BAD: b", ChoiceEdges::changed, x -> x.found(0, 0, 1, 0, 1), BAD);
+        unchanged("20 BAD: what", ChoiceEdges::changed, x -> x.found(0, 0, 1, 1, 2), BAD);
 
         holds("19, 20 what is only tried leaves no trace", ChoiceEdges::triesLeaveNoTrace);
         holds("19, 20 what is refused leaves no trace", ChoiceEdges::refusedKindsLeaveNoTrace);

@@ -58,14 +58,6 @@ public final class RoomEdges extends Sentences {
         due("doorAt(3)", x.doorAt(3), 19);
     }
 
-    private static void doorAtTooSmallOrLarge() {
-        MirrorShares four = laid("roxox;");
-        each("doorAt", four::doorAt, BAD, -1, -4, 4, 5, 32, 256, LOW, HIGH);
-        MirrorShares one = new MirrorShares();
-        due("doorAt(0)", one.doorAt(0), 6);
-        each("doorAt", one::doorAt, BAD, -1, 1, 2, 6);
-    }
-
     private static void doorsByTheirCells() {
         MirrorShares x = laid("r.....;");
         x.put(3, OPEN);
@@ -126,30 +118,7 @@ public final class RoomEdges extends Sentences {
         }
     }
 
-    private static void portTooSmall() {
-        MirrorShares x = new MirrorShares();
-        each("port(p, 0)", p -> x.port(p, 0), BAD, -1, -2, -14, LOW);
-        each("port(p, 1)", p -> x.port(p, 1), BAD, -1, -2, -14, LOW);
-    }
-
-    private static void portTooLarge() {
-        MirrorShares x = new MirrorShares();
-        each("port(p, 0)", p -> x.port(p, 0), BAD, 14, 15, 18, 256, 1 << 30, HIGH);
-        each("port(p, 1)", p -> x.port(p, 1), BAD, 14, 15, 18, 256, 1 << 30, HIGH);
-    }
-
-    private static void portWhat() {
-        MirrorShares x = new MirrorShares();
-        each("port(0, what)", what -> x.port(0, what), BAD, -1, 2, 3, 256, LOW, HIGH);
-        each("port(13, what)", what -> x.port(13, what), BAD, -1, 2, 3, 256, LOW, HIGH);
-    }
-
     // ---- 21 count
-
-    private static void countTooSmallOrLarge() {
-        MirrorShares x = new MirrorShares();
-        each("count", x::count, BAD, -1, -2, 10, 11, 256, 65536, LOW, HIGH);
-    }
 
     private static void counts(MirrorShares x, int... want) {
         for (int what = 0; what < want.length; what++) {
@@ -221,14 +190,6 @@ public final class RoomEdges extends Sentences {
         due("count(9), 60 at most", x.count(9), 60);
     }
 
-    private static void questionsChangeNothing() {
-        unchanged("cell(12)", RoomEdges::changed, x -> x.cell(12), BAD);
-        unchanged("doorAt(1)", RoomEdges::changed, x -> x.doorAt(1), BAD);
-        unchanged("port(14, 0)", RoomEdges::changed, x -> x.port(14, 0), BAD);
-        unchanged("port(0, 2)", RoomEdges::changed, x -> x.port(0, 2), BAD);
-        unchanged("count(10)", RoomEdges::changed, x -> x.count(10), BAD);
-    }
-
     public static void main(String[] args) {
         holds("10 KIND of a CELL: 0 to 7", RoomEdges::cellOfEachKind);
         holds("10 CELL x, y has the number W times y, and x", RoomEdges::cellNumber);
@@ -238,18 +199,20 @@ public final class RoomEdges extends Sentences {
 
         holds("11 BAD: there is no door", RoomEdges::doorAtOfNone);
         holds("11 CELL of a DOOR: from the first cell to the last", RoomEdges::doorAtFirstAndLast);
-        holds("11 BAD: too small, too large", RoomEdges::doorAtTooSmallOrLarge);
+        limits("11 a DOOR of 4", "roxox;", 0, 3, MirrorShares::doorAt);
+        limits("11 a DOOR of one", "r.f/.;rb.xf;r\\f.\\;", 0, 0, MirrorShares::doorAt);
         holds("11 DOORS are numbered 0, 1, .. by their CELLS", RoomEdges::doorsByTheirCells);
 
         holds("12 PORTS of the smallest room", RoomEdges::portsOfTheSmallest);
         holds("12 PORTS of the largest room", RoomEdges::portsOfTheLargest);
         holds("12 PORTS of a room and of it TURNED", RoomEdges::portsOfTheTurned);
         holds("12 2 times (W and H) in all", RoomEdges::portsOfEverySize);
-        holds("12 BAD: a PORT too small", RoomEdges::portTooSmall);
-        holds("12 BAD: a PORT too large", RoomEdges::portTooLarge);
-        holds("12 (what = 0), (1): else BAD", RoomEdges::portWhat);
+        portLimits("12 the CELL at a PORT", (x, p) -> x.port(p, 0));
+        portLimits("12 the DIRECTION at a PORT", (x, p) -> x.port(p, 1));
+        limits("12 what (0, 1) of the first PORT", "r..;", 0, 1, (x, what) -> x.port(0, what));
+        limits("12 what (0, 1) of the last PORT", "r..;", 0, 1, (x, what) -> x.port(5, what));
 
-        holds("21 BAD: too small, too large", RoomEdges::countTooSmallOrLarge);
+        limits("21 what (0 to 9)", "r..;", 0, 9, MirrorShares::count);
         holds("21 how many, at the least", RoomEdges::countsAtTheLeast);
         holds("21 W, H, PORTS, letters of other rooms", RoomEdges::countsOfSizes);
         holds("21 HALF ones, 5 at most", RoomEdges::countOfHalves);
@@ -259,7 +222,11 @@ public final class RoomEdges extends Sentences {
         holds("21 changes that can be UNDONE, 4 at most", RoomEdges::countOfChanges);
         holds("21 letters of THE TEXT, 60 at most", RoomEdges::countOfLetters);
 
-        holds("10, 11, 12, 21 BAD: nothing changes then", RoomEdges::questionsChangeNothing);
+        unchanged("10 BAD", RoomEdges::changed, x -> x.cell(12), BAD);
+        unchanged("11 BAD", RoomEdges::changed, x -> x.doorAt(1), BAD);
+        unchanged("12 BAD: a PORT", RoomEdges::changed, x -> x.port(14, 0), BAD);
+        unchanged("12 BAD: what", RoomEdges::changed, x -> x.port(0, 2), BAD);
+        unchanged("21 BAD", RoomEdges::changed, x -> x.count(10), BAD);
         end();
     }
 }

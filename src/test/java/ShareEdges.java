@@ -81,17 +81,6 @@ public final class ShareEdges extends Sentences {
 
     // ---- 13 share
 
-    private static void sharePorts() {
-        badPorts("share above", (x, p, q) -> x.share(p, q, 0));
-        badPorts("share below", (x, p, q) -> x.share(p, q, 1));
-    }
-
-    private static void sharePart() {
-        MirrorShares x = new MirrorShares();
-        each("share(0, 0, part)", part -> x.share(0, 0, part), BAD, -1, 2, 3, 256, 257, LOW, HIGH);
-        each("share(0, 10, part)", part -> x.share(0, 10, part), BAD, -1, 2, 3, 256, 257, LOW, HIGH);
-    }
-
     private static void shareOfFirstAndLastPort() {
         MirrorShares small = laid("r..;");
         share(small, 0, 3, 1, 1);
@@ -184,19 +173,6 @@ public final class ShareEdges extends Sentences {
 
     // ---- 14 lost
 
-    private static void lostPort() {
-        for (int what = 0; what < 4; what++) {
-            int told = what;
-            badPorts("lost", (x, p, q) -> x.lost(p == 0 ? q : p, told));
-        }
-    }
-
-    private static void lostWhat() {
-        MirrorShares x = new MirrorShares();
-        each("lost(0, what)", what -> x.lost(0, what), BAD, -1, -2, 4, 5, 256, LOW, HIGH);
-        each("lost(13, what)", what -> x.lost(13, what), BAD, -1, -2, 4, 5, 256, LOW, HIGH);
-    }
-
     private static void lostNothing() {
         MirrorShares x = laid("r./;r\\f;rb.;");
         for (int p = 0; p < 10; p++) {
@@ -263,10 +239,6 @@ public final class ShareEdges extends Sentences {
 
     // ---- 15 bits
 
-    private static void bitsPorts() {
-        badPorts("bits", MirrorShares::bits);
-    }
-
     private static void bitsOfNothing() {
         due("bits(0, 1)", laid("r..;").bits(0, 1), 0);
         due("bits(0, 9)", laid(WALLS).bits(0, 9), 0);
@@ -304,10 +276,6 @@ public final class ShareEdges extends Sentences {
     }
 
     // ---- 16 lit
-
-    private static void litPort() {
-        badPorts("lit", (x, p, q) -> x.lit(p == 0 ? q : p));
-    }
 
     private static void litAlone() {
         MirrorShares walls = laid(WALLS);
@@ -348,10 +316,6 @@ public final class ShareEdges extends Sentences {
     }
 
     // ---- 17 far
-
-    private static void farPorts() {
-        badPorts("far", MirrorShares::far);
-    }
 
     private static void farAtTheLeast() {
         due("far(0, 3)", laid("r..;").far(0, 3), 1);
@@ -418,10 +382,6 @@ public final class ShareEdges extends Sentences {
 
     // ---- 18 alike
 
-    private static void alikePorts() {
-        badPorts("alike", MirrorShares::alike);
-    }
-
     private static void alikeToItself() {
         for (String text : ROOMS) {
             MirrorShares x = laid(text);
@@ -458,18 +418,6 @@ public final class ShareEdges extends Sentences {
         }
     }
 
-    private static void questionsChangeNothing() {
-        unchanged("share(14, 0, 0)", ShareEdges::changed, x -> x.share(14, 0, 0), BAD);
-        unchanged("share(0, 0, 2)", ShareEdges::changed, x -> x.share(0, 0, 2), BAD);
-        unchanged("lost(14, 0)", ShareEdges::changed, x -> x.lost(14, 0), BAD);
-        unchanged("lost(0, 4)", ShareEdges::changed, x -> x.lost(0, 4), BAD);
-        unchanged("bits(0, 14)", ShareEdges::changed, x -> x.bits(0, 14), BAD);
-        unchanged("lit(14)", ShareEdges::changed, x -> x.lit(14), BAD);
-        unchanged("far(0, 14)", ShareEdges::changed, x -> x.far(0, 14), BAD);
-        unchanged("far(2, 3)", ShareEdges::changed, x -> x.far(2, 3), NONE);
-        unchanged("alike(14, 0)", ShareEdges::changed, x -> x.alike(14, 0), BAD);
-    }
-
     private static void lastOf512Questions() {
         MirrorShares x = new MirrorShares();
         for (int call = 1; call <= 511; call++) {
@@ -484,8 +432,10 @@ public final class ShareEdges extends Sentences {
         holds("2 MIRRORS: it is turned", ShareEdges::isTurned);
         holds("2 HALF ones: one half goes on, the other half is turned", ShareEdges::isHalved);
 
-        holds("13 BAD: a PORT too small, too large", ShareEdges::sharePorts);
-        holds("13 (part = 0), (1): else BAD", ShareEdges::sharePart);
+        portsLimits("13 above,", (x, p, q) -> x.share(p, q, 0));
+        portsLimits("13 below,", (x, p, q) -> x.share(p, q, 1));
+        limits("13 part (0, 1) of a share of 0", "r..;", 0, 1, (x, part) -> x.share(0, 0, part));
+        limits("13 part (0, 1) of a share of 1", "r..;", 0, 1, (x, part) -> x.share(0, 3, part));
         holds("13 SHARE of the first PORT and the last", ShareEdges::shareOfFirstAndLastPort);
         holds("13 0: 0 by 1", ShareEdges::shareOfNothing);
         holds("13 a share of 1: 1 by 1", ShareEdges::shareOfAll);
@@ -496,8 +446,11 @@ public final class ShareEdges extends Sentences {
         holds("13 a share of 1 by 512", ShareEdges::shareAtTheLeast);
         holds("13, 14 1 less all that goes OUT and is SWALLOWED", ShareEdges::sharesMakeOne);
 
-        holds("14 BAD: a PORT too small, too large", ShareEdges::lostPort);
-        holds("14 (what = 0) to (3): else BAD", ShareEdges::lostWhat);
+        portLimits("14 SWALLOWED above, a PORT", (x, p) -> x.lost(p, 0));
+        portLimits("14 SWALLOWED below, a PORT", (x, p) -> x.lost(p, 1));
+        portLimits("14 CAUGHT above, a PORT", (x, p) -> x.lost(p, 2));
+        portLimits("14 CAUGHT below, a PORT", (x, p) -> x.lost(p, 3));
+        limits("14 what (0 to 3)", "r.#;", 0, 3, (x, what) -> x.lost(5, what));
         holds("14 nothing SWALLOWED: 0 by 1", ShareEdges::lostNothing);
         holds("14 all SWALLOWED: 1 by 1", ShareEdges::lostAll);
         holds("14 SWALLOWED in lowest terms", ShareEdges::lostInLowestTerms);
@@ -506,14 +459,14 @@ public final class ShareEdges extends Sentences {
         holds("14 CAUGHT: closed rings catch nothing", ShareEdges::closedRings);
         holds("14 SWALLOWED at a door as it is", ShareEdges::lostAtADoor);
 
-        holds("15 BAD: a PORT too small, too large", ShareEdges::bitsPorts);
+        portsLimits("15", MirrorShares::bits);
         holds("15 bits of 0", ShareEdges::bitsOfNothing);
         holds("15 bits of 1", ShareEdges::bitsOfAll);
         holds("15 bits of powers of a half, the least too", ShareEdges::bitsOfHalves);
         holds("15 bits of a quotient that is rounded", ShareEdges::bitsRounded);
         holds("15 above and below each made a float, the one divided by the other", ShareEdges::bitsOfAllShares);
 
-        holds("16 BAD: a PORT too small, too large", ShareEdges::litPort);
+        portLimits("16 a PORT", MirrorShares::lit);
         holds("16 LIT is the cell that swallows, and it alone", ShareEdges::litAlone);
         holds("16 all 20 CELLS LIT", ShareEdges::litAll);
         holds("16 no CELL behind a WALL is LIT", ShareEdges::litUpToAWall);
@@ -521,7 +474,7 @@ public final class ShareEdges extends Sentences {
         holds("16 a CELL come into twice is one bit", ShareEdges::litTwiceIsOneBit);
         holds("16 the first and the last CELL as bits", ShareEdges::litFirstAndLastCell);
 
-        holds("17 BAD: a PORT too small, too large", ShareEdges::farPorts);
+        portsLimits("17", MirrorShares::far);
         holds("17 FAR at the least: one CELL", ShareEdges::farAtTheLeast);
         holds("17 FAR across the smallest and the largest room", ShareEdges::farAcross);
         holds("17 NONE: nothing goes OUT there", ShareEdges::farNone);
@@ -531,13 +484,21 @@ public final class ShareEdges extends Sentences {
         holds("17 FAR of more CELLS than there are", ShareEdges::farAtTheMost);
         holds("17 BAD goes ahead of NONE", ShareEdges::farBadAheadOfNone);
 
-        holds("18 BAD: a PORT too small, too large", ShareEdges::alikePorts);
+        portsLimits("18", MirrorShares::alike);
         holds("18 1: a PORT and itself", ShareEdges::alikeToItself);
         holds("18 0: all and nothing", ShareEdges::alikeAllOrNothing);
         holds("18 the same share is SWALLOWED, wherever", ShareEdges::alikeByTheShareAlone);
         holds("18 1 just where both are the same, else 0", ShareEdges::alikeAsLost);
 
-        holds("13 to 18 BAD, NONE: nothing changes then", ShareEdges::questionsChangeNothing);
+        unchanged("13 BAD: a PORT", ShareEdges::changed, x -> x.share(14, 0, 0), BAD);
+        unchanged("13 BAD: part", ShareEdges::changed, x -> x.share(0, 0, 2), BAD);
+        unchanged("14 BAD: a PORT", ShareEdges::changed, x -> x.lost(14, 0), BAD);
+        unchanged("14 BAD: what", ShareEdges::changed, x -> x.lost(0, 4), BAD);
+        unchanged("15 BAD", ShareEdges::changed, x -> x.bits(0, 14), BAD);
+        unchanged("16 BAD", ShareEdges::changed, x -> x.lit(14), BAD);
+        unchanged("17 BAD", ShareEdges::changed, x -> x.far(0, 14), BAD);
+        unchanged("17 NONE", ShareEdges::changed, x -> x.far(2, 3), NONE);
+        unchanged("18 BAD", ShareEdges::changed, x -> x.alike(14, 0), BAD);
         holds("at most 512 calls: questions", ShareEdges::lastOf512Questions);
         end();
     }

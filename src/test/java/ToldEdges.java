@@ -70,11 +70,6 @@ public final class ToldEdges extends Sentences {
         due("count(9)", x.count(9), 0);
     }
 
-    private static void noLetterChangesNothing() {
-        unchanged("write(31)", () -> written("r..;r."), x -> x.write(31), BAD);
-        unchanged("write(127)", () -> written("r..;r.."), x -> x.write(127), BAD);
-    }
-
     private static void letterBehind() {
         MirrorShares x = laid("r/\\;r.#;");
         cells(x, "/\\.#");
@@ -102,10 +97,6 @@ public final class ToldEdges extends Sentences {
         due("the 61st letter", x.write('.'), FULL);
         due("once more", x.write('.'), FULL);
         due("count(9)", x.count(9), 60);
-    }
-
-    private static void fullChangesNothing() {
-        unchanged("the 61st letter", ToldEdges::fullText, x -> x.write('.'), FULL);
     }
 
     private static void badAheadOfFull() {
@@ -331,11 +322,6 @@ public final class ToldEdges extends Sentences {
         due("15 rows", written(freeRoom(2, 15)).fault(), 16);
     }
 
-    private static void faultChangesNothing() {
-        unchanged("fault()", () -> written("r..;q"), MirrorShares::fault, 4);
-        unchanged("fault()", () -> changed("r##;"), MirrorShares::fault, NONE);
-    }
-
     // ---- 5 lay
 
     private static void everySize() {
@@ -372,12 +358,6 @@ public final class ToldEdges extends Sentences {
             due("count(9)", x.count(9), text.length());
             cells(x, FIRST_CELLS);
         }
-    }
-
-    private static void refusedLayChangesNothing() {
-        unchanged("lay() of nothing", () -> changed(""), MirrorShares::lay, NO);
-        unchanged("lay() of a fault", () -> changed("r##;r#;"), MirrorShares::lay, NO);
-        unchanged("lay() of a full text", () -> changed("r.".repeat(30)), MirrorShares::lay, NO);
     }
 
     private static void nothingUndoneBehindLay() {
@@ -460,12 +440,13 @@ public final class ToldEdges extends Sentences {
         holds("2 126 is a letter, 127 is too large: BAD", ToldEdges::greatestLetter);
         holds("2 a letter (32 to 126): each", ToldEdges::everyLetter);
         holds("2 BAD: far too small, far too large, or a letter only by wrap-around", ToldEdges::noLetters);
-        holds("2 BAD: nothing changes then", ToldEdges::noLetterChangesNothing);
+        unchanged("2 BAD: a letter too small", () -> written("r..;r."), x -> x.write(31), BAD);
+        unchanged("2 BAD: a letter too large", () -> written("r..;r."), x -> x.write(127), BAD);
         holds("2 a letter comes behind THE TEXT", ToldEdges::letterBehind);
         holds("2 how long it is: 1 to 60", ToldEdges::howLongItIs);
         holds("2 letters (60 at most): the 60th comes in", ToldEdges::sixtiethLetter);
         holds("2 FULL: it has 60", ToldEdges::sixtyFirstLetter);
-        holds("2 FULL: nothing changes then", ToldEdges::fullChangesNothing);
+        unchanged("2 FULL: the 61st letter", ToldEdges::fullText, x -> x.write('.'), FULL);
         holds("2 BAD goes ahead of FULL", ToldEdges::badAheadOfFull);
         holds("2, 3 a TEXT that was full and is wiped takes 60 again", ToldEdges::spaceAgainBehindWipe);
 
@@ -499,13 +480,16 @@ public final class ToldEdges extends Sentences {
         holds("4 the place of the first letter of the ITEM, not of its wrong one", ToldEdges::firstLetterOfTheItem);
         holds("4 a blank is a letter of THE TEXT, but of no ITEM", ToldEdges::blanks);
         holds("4 FAULT of a TEXT of 60 letters", ToldEdges::faultOfFullTexts);
-        holds("4 to be told of a FAULT changes nothing", ToldEdges::faultChangesNothing);
+        unchanged("4 FAULT is told", () -> changed("r##;q"), MirrorShares::fault, 4);
+        unchanged("4 NONE", () -> changed("r##;"), MirrorShares::fault, NONE);
 
         holds("5 how many CELLS: W 2 to 5, H 1 to 4", ToldEdges::everySize);
         holds("5 each KIND by its letter", ToldEdges::everyKind);
         holds("5 NO: a TEXT without a row", ToldEdges::layOfNothing);
         holds("5 NO: a TEXT with a FAULT", ToldEdges::layOfFaults);
-        holds("5 NO: nothing changes then", ToldEdges::refusedLayChangesNothing);
+        unchanged("5 NO: no row", () -> changed(""), MirrorShares::lay, NO);
+        unchanged("5 NO: a FAULT", () -> changed("r##;r#;"), MirrorShares::lay, NO);
+        unchanged("5 NO: a full TEXT", () -> changed("r.".repeat(30)), MirrorShares::lay, NO);
         holds("5 nothing can be UNDONE", ToldEdges::nothingUndoneBehindLay);
         holds("5 nothing can be UNDONE, the same room LAID again too", ToldEdges::nothingUndoneBehindTheSame);
         holds("5 behind LAID none can be, but the changes behind it can", ToldEdges::changesBehindLay);

@@ -116,21 +116,53 @@ abstract class Sentences {
         }
     }
 
-    interface PortCall {
+    interface NumberCall {
+        int ask(MirrorShares x, int number);
+    }
+
+    interface PortsCall {
         int ask(MirrorShares x, int p, int q);
     }
 
-    /** In rooms of 6, 14, 18 ports: numbers too small or too large as the one port, the other, both. */
-    static void badPorts(String call, PortCall asked) {
-        MirrorShares[] rooms = {laid("r..;"), new MirrorShares(), laid(freeRoom(5, 4))};
-        int[] ports = {6, 14, 18};
-        for (int i = 0; i < rooms.length; i++) {
-            for (int bad : new int[] {-1, -ports[i], ports[i], ports[i] + 1, 256, 1 << 30, LOW, HIGH}) {
-                due(call + " from " + bad, asked.ask(rooms[i], bad, 0), BAD);
-                due(call + " to " + bad, asked.ask(rooms[i], 0, bad), BAD);
-                due(call + " from and to " + bad, asked.ask(rooms[i], bad, bad), BAD);
+    private static int[] below(int least) {
+        return new int[] {least - 1, least - 2, least - 256, least - 65536, -(1 << 30), LOW, LOW + 1};
+    }
+
+    private static int[] above(int most) {
+        return new int[] {most + 1, most + 2, most + 256, most + 65536, 1 << 30, HIGH};
+    }
+
+    /** Two sentences, of a number that is told from least to most: too small, too large (by wrap-around too). */
+    static void limits(String sentence, String text, int least, int most, NumberCall asked) {
+        holds(sentence + " too small: BAD", () -> allBad(laid(text), asked, below(least)));
+        holds(sentence + " too large: BAD", () -> allBad(laid(text), asked, above(most)));
+    }
+
+    private static void allBad(MirrorShares x, NumberCall asked, int[] numbers) {
+        String before = cellsOf(x);
+        each("the call", number -> asked.ask(x, number), BAD, numbers);
+        due("the cells", cellsOf(x), before);
+    }
+
+    /** Two sentences, of a PORT, each in rooms of 6, 14 and 18 ports. */
+    static void portLimits(String sentence, NumberCall asked) {
+        holds(sentence + " too small: BAD", () -> {
+            for (String text : new String[] {freeRoom(2, 1), freeRoom(4, 3), freeRoom(5, 4)}) {
+                allBad(laid(text), asked, below(0));
             }
-        }
+        });
+        holds(sentence + " too large: BAD", () -> {
+            allBad(laid(freeRoom(2, 1)), asked, above(5));
+            allBad(laid(freeRoom(4, 3)), asked, above(13));
+            allBad(laid(freeRoom(5, 4)), asked, above(17));
+        });
+    }
+
+    /** Six sentences, of two PORTS: the one, the other, both. */
+    static void portsLimits(String promise, PortsCall asked) {
+        portLimits(promise + " the one PORT", (x, bad) -> asked.ask(x, bad, 0));
+        portLimits(promise + " the other PORT", (x, bad) -> asked.ask(x, 0, bad));
+        portLimits(promise + " both PORTS", (x, bad) -> asked.ask(x, bad, bad));
     }
 
     /** All that can be asked of the object without a change. */
@@ -152,10 +184,12 @@ abstract class Sentences {
         return s.append("wipe ").append(x.wipe()).toString();
     }
 
-    /** The call answers as due, and behind it all is as if it had not been. */
-    static void unchanged(String call, Supplier<MirrorShares> made, ToIntFunction<MirrorShares> asked, int want) {
-        MirrorShares x = made.get();
-        due(call, asked.applyAsInt(x), want);
-        due("all that is known behind " + call, known(x), known(made.get()));
+    /** A sentence: the call answers as due, and behind it all is as if it had not been. */
+    static void unchanged(String sentence, Supplier<MirrorShares> made, ToIntFunction<MirrorShares> asked, int want) {
+        holds(sentence + ": nothing changes then", () -> {
+            MirrorShares x = made.get();
+            due("the call", asked.applyAsInt(x), want);
+            due("all that is known behind it", known(x), known(made.get()));
+        });
     }
 }
